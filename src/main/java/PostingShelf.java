@@ -27,9 +27,10 @@ public final class PostingShelf {
     /** The term of a stop word; no stem is 0, since a stem has a letter. */
     private static final long NO_TERM = 0L;
 
-    /** In letters: a, an, and, in, of, or, the, to. */
+    /** These are a, an, and, in, of, or, the, to. */
     private static final long[] STOP_WORDS = {1L, 449L, 4545L, 457L, 207L, 591L, 5396L, 500L};
 
+    /** The kinds of a step of a query: the ways of join(), and a row of terms. */
     private static final int BOTH = 0;
     private static final int EITHER = 1;
     private static final int NOT = 2;
@@ -229,6 +230,11 @@ public final class PostingShelf {
 
     private static boolean isId(int id) {
         return id >= 0 && id < IDS;
+    }
+
+    /** Rows of ids are kept as bits, the one of id 0 the lowest. */
+    private static boolean isAmong(int id, int ids) {
+        return (ids >> id & 1) == 1;
     }
 
     private static int totalLength(ArrayList<Document> documents) {
@@ -518,7 +524,7 @@ public final class PostingShelf {
         private int deletedIds = 0;
 
         boolean isLive(int i) {
-            return (deletedIds >> documents.get(i).id & 1) == 0;
+            return !isAmong(documents.get(i).id, deletedIds);
         }
 
         void copyLive(ArrayList<Document> target) {
@@ -546,7 +552,7 @@ public final class PostingShelf {
 
         boolean hasLiveAmong(int ids) {
             for (int i = 0; i < live.size(); i++) {
-                if ((ids >> live.get(i).id & 1) == 1) {
+                if (isAmong(live.get(i).id, ids)) {
                     return true;
                 }
             }
@@ -554,26 +560,31 @@ public final class PostingShelf {
         }
 
         void takeIn(Pending pending) {
-            for (int i = 0; i < segments.size(); i++) {
-                segments.get(i).deletedIds |= pending.ids;
-            }
-            for (int i = live.size() - 1; i >= 0; i--) {
-                if ((pending.ids >> live.get(i).id & 1) == 1) {
-                    live.remove(i);
-                }
-            }
+            markDeleted(pending.ids);
             if (!pending.documents.isEmpty()) {
-                segments.add(segmentOf(pending.documents));
+                appendSegment(pending.documents);
             }
         }
 
-        private Segment segmentOf(ArrayList<Document> documents) {
+        private void markDeleted(int ids) {
+            for (int i = 0; i < segments.size(); i++) {
+                segments.get(i).deletedIds |= ids;
+            }
+            for (int i = live.size() - 1; i >= 0; i--) {
+                if (isAmong(live.get(i).id, ids)) {
+                    live.remove(i);
+                }
+            }
+        }
+
+        /** Copies the row, since that of what is pending is used again. */
+        private void appendSegment(ArrayList<Document> documents) {
             Segment segment = new Segment();
             for (int i = 0; i < documents.size(); i++) {
                 segment.documents.add(documents.get(i));
                 insertLive(documents.get(i));
             }
-            return segment;
+            segments.add(segment);
         }
 
         private void insertLive(Document document) {
@@ -745,7 +756,6 @@ public final class PostingShelf {
         private int weighedCount = 0;
 
         void clear() {
-            termCount = 0;
             weighedCount = 0;
         }
 

@@ -2,8 +2,25 @@
 public final class RankTest {
     private static final Check check = new Check();
 
+    /** The I of a term by N, in rows, and F, both from 1. */
+    private static final int[][] RARITIES = {
+        {144},
+        {152, 136},
+        {160, 144, 133},
+        {164, 148, 138, 132},
+        {168, 152, 144, 136, 131},
+        {172, 156, 146, 140, 134, 130},
+        {176, 160, 149, 144, 137, 133, 130},
+        {178, 162, 152, 146, 140, 136, 132, 130},
+        {180, 164, 154, 148, 144, 138, 134, 132, 129},
+        {182, 166, 157, 150, 145, 141, 137, 134, 131, 129},
+        {184, 168, 160, 152, 147, 144, 139, 136, 133, 131, 129},
+        {186, 170, 161, 154, 148, 145, 141, 138, 135, 132, 130, 129},
+    };
+
     public static void main(String[] args) {
         oneTerm();
+        rarities();
         weightsByHand();
         bagsAndTies();
         deletedOnesDoNotCount();
@@ -45,6 +62,20 @@ public final class RankTest {
         dueRank(shelfOf("the a", "an to"), "the", 3, "", 0);
     }
 
+    /** Of documents of one word each, D * N / L is 1, and the weight is I * 2200 / 2200. */
+    private static void rarities() {
+        for (int n = 1; n <= 12; n++) {
+            for (int f = 1; f <= n; f++) {
+                PostingShelf shelf = new PostingShelf();
+                for (int id = 0; id < n; id++) {
+                    Check.put(shelf, id, id < n - f ? "dog" : "cat");
+                }
+                shelf.commit();
+                dueRank(shelf, "cat", 1, (n - f) + ":" + RARITIES[n - 1][f - 1], 1);
+            }
+        }
+    }
+
     /**
      * N = 4, L = 9. cat: F = 3, x = 1280 / 3 = 426, e = 8, I = 128 + 26 - 16 = 138. dog: F = 1, x = 1280, e = 10,
      * I = 160 + 20 - 16 = 164. fish: F = 2, x = 640, e = 9, I = 144 + 20 - 16 = 148.
@@ -78,7 +109,7 @@ public final class RankTest {
         shelf.merge(0);
         shelf.merge(2);
         dueRank(shelf, "cat dog the", 2, "0:130 2:130", 2);
-        check.due("rank behind a find keeps its own results", shelf.weight(1), 130);
+        check.due("weight(1)", shelf.weight(1), 130);
         check.due("weight(2)", shelf.weight(2), -1);
         check.due("weight(-1)", shelf.weight(-1), -1);
         check.due("weight(min)", shelf.weight(Integer.MIN_VALUE), -1);
@@ -119,6 +150,10 @@ public final class RankTest {
         PostingShelf falling = shelfOf("cat", "cat bird bird", "cat dog bird fish");
         dueRank(falling, "cat", 1, "0:178", 1);
         dueRank(falling, "cat", 2, "0:178 1:126", 3);
+        // A bound of an earlier bag is no bound of a later one: dog, in one document alone, outweighs cat.
+        PostingShelf twice = shelfOf("cat", "cat", "cat", "dog");
+        dueRank(twice, "dog", 1, "3:164", 1);
+        dueRank(twice, "cat", 1, "0:138", 1);
     }
 
     private static void refusals() {

@@ -21,7 +21,7 @@ public final class SizeTest {
         Check.terms(shelf, "cat the dog");
         check.dueSizes("pending again", shelf, 3, 1, 3, 3, 2, 3, 3, 4, 0, 2);
         shelf.commit();
-        // The document and id 0, now twice in segments, has its entries in both.
+        // Id 0 has a document in both segments, and entries in both.
         check.dueSizes("committed again", shelf, 2, 2, 4, 0, 2, 3, 4, 7, 0, 4);
 
         shelf.fuse(1);

@@ -25,7 +25,7 @@ public final class StemTest {
         "yay yai", "bying by",
         // one step after the other
         "meetings meet", "agreeds agree", "hopings hope", "partys parti", "parties parti", "toys toi", "its it",
-        "ings ing", "feeds feed", "dyings dy",
+        "ings ing", "feeds feed", "dyings dy", "ays ai", "eys ei", "aeds a",
         // twelve letters
         "abcdefghijed abcdefghij", "trrrrrrrated trrrrrrrate", "zzzzzzzzzzzz zzzzzzzzzzzz",
         "aaaaaaaaasss aaaaaaaaasss", "bbbbbbbbabed bbbbbbbbabe",
