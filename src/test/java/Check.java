@@ -63,7 +63,7 @@ final class Check {
     /** The results as a text: id, or id:weight where the weight is not 0. */
     static String results(PostingShelf shelf) {
         StringBuilder row = new StringBuilder();
-        for (int i = 0; shelf.result(i) != -1; i++) {
+        for (int i = 0; i < 14 && shelf.result(i) != -1; i++) {
             row.append(i == 0 ? "" : " ").append(shelf.result(i));
             if (shelf.weight(i) != 0) {
                 row.append(':').append(shelf.weight(i));

@@ -38,12 +38,22 @@ public final class DraftSentencesTest {
 
     private static void promise1() {
         sentences.under("Promise 1");
-        sentences.test("No documents,", "size 0 2 6 9 = 0; term red; join 2; find = 0; term red; rank 5 = 0");
-        sentences.test("no segments,", "size 1 = 0; merge 0 -1 1 = -1");
-        sentences.test("an empty draft", "size 4 = 0; feed red = 1", "add 3 = 1; commit = 1; size 6 9 = 0");
-        sentences.test("and stack,", "size 5 = 0; find = -3", "rank 1 = -3", "phrase 2 = -1; join 2 = -1", "term red = 1");
-        sentences.test("no fuse,", "restart = false; " + "delete 0; commit = 0; ".repeat(120) + "size 7 = 120; size 8 = 0");
-        sentences.test("nothing written.", "size 7 = 0; size 3 = 0; commit = -1; size 7 = 0");
+        sentences.test("No documents,",
+            "size 0 2 6 9 = 0; term red; join 2; find = 0; term red; rank 5 = 0");
+        sentences.test("no segments,",
+            "size 1 = 0; merge 0 -1 1 = -1");
+        sentences.test("an empty draft",
+            "size 4 = 0; feed red = 1",
+            "add 3 = 1; commit = 1; size 6 9 = 0");
+        sentences.test("and stack,",
+            "size 5 = 0; find = -3",
+            "rank 1 = -3",
+            "phrase 2 = -1; join 2 = -1",
+            "term red = 1");
+        sentences.test("no fuse,",
+            "restart = false; " + "delete 0; commit = 0; ".repeat(120) + "size 7 = 120; size 8 = 0");
+        sentences.test("nothing written.",
+            "size 7 = 0; size 3 = 0; commit = -1; size 7 = 0");
         sentences.test("No documents, no segments, an empty draft and stack, no fuse, nothing written.",
             "sizes = 0 0 0 0 0 0 0 0 0 0; result 0 = -1; weight 0 = -1; weighed = 0");
         sentences.test("An object is used for at most 512 calls after it has been made;",
@@ -53,23 +63,29 @@ public final class DraftSentencesTest {
 
     private static void promise3() {
         sentences.under("Promise 3");
-        sentences.test("Adds a word to the draft.", "feed red; feed dog; add 0; commit; holds red dog = 0",
+        sentences.test("Adds a word to the draft.",
+            "feed red; feed dog; add 0; commit; holds red dog = 0",
             // a stop word is a word of the draft too
             "feed the a to = 1 2 3; size 4 = 3");
         sentences.test("Answers how many words it has;",
             "feed " + TWELVE_WORDS + " = 1 2 3 4 5 6 7 8 9 10 11 12; size 4 = 12; add 0; feed b = 1; size 4 = 1",
             "feed red red red = 1 2 3");
-        sentences.test("DOWN;", STOPPED + "feed red = -9; feed " + NO_WORDS + " = -9; size 4 = 0; restart; feed red = 1");
+        sentences.test("DOWN;",
+            STOPPED + "feed red = -9; feed " + NO_WORDS + " = -9; size 4 = 0; restart; feed red = 1");
         sentences.test("refused with -1 when word is none,",
             "feed " + NO_WORDS + " = -1; size 4 = 0; feed red = 1; feed " + NO_WORDS + " = -1; feed dog = 2");
         sentences.changesNothing("refused with -1 when word is none,",
-            "feed red", "feed " + NO_WORDS + " = -1", "feed dog = 2; add 0; commit; holds red dog = 0; size 6 = 2");
+            "feed red",
+            "feed " + NO_WORDS + " = -1",
+            "feed dog = 2; add 0; commit; holds red dog = 0; size 6 = 2");
         sentences.test("or the draft has 12.",
             "feed " + TWELVE_WORDS + "; feed red the 0 = -1; size 4 = 12",
             "feed " + "the ".repeat(12) + "; feed red = -1; add 0; commit; holds red =; size 6 = 0",
             "feed " + "red ".repeat(11) + "; feed red = 12; feed red = -1");
         sentences.changesNothing("or the draft has 12.",
-            "feed " + TWELVE_WORDS, "feed red b = -1", "add 0; commit; size 6 = 12; holds red =; holds b = 0; holds m = 0");
+            "feed " + TWELVE_WORDS,
+            "feed red b = -1",
+            "add 0; commit; size 6 = 12; holds red =; holds b = 0; holds m = 0");
     }
 
     private static void promise4() {
@@ -88,15 +104,20 @@ public final class DraftSentencesTest {
             "add 3 = 1; commit = 1; sizes = 1 1 1 0 0 0 0 2 0 0; term red; join 2; find = 1; results = 3",
             "put 3 red; commit; add 3; commit = 1; sizes = 1 2 2 0 0 0 0 5 0 1; holds red =");
         sentences.test("and is empty then.",
-            "put 3 red; size 4 = 0; add 4 = 2; commit; holds red = 3; size 6 = 1", "put 3 red; feed dog = 1");
+            "put 3 red; size 4 = 0; add 4 = 2; commit; holds red = 3; size 6 = 1",
+            "put 3 red; feed dog = 1");
         sentences.test("Answers how many ids have something pending;",
             "add 3 3 4 = 1 1 2; delete 5 3 = 3 3; add 5 = 3; size 3 = 3; commit; size 3 = 0; add 0 = 1");
-        sentences.test("DOWN;", STOPPED + "add 0 3 11 = -9; add " + NO_IDS + " = -9; size 3 = 0; restart; add 0 = 1");
+        sentences.test("DOWN;",
+            STOPPED + "add 0 3 11 = -9; add " + NO_IDS + " = -9; size 3 = 0; restart; add 0 = 1");
         sentences.test("refused with -1 when there is no such id.",
-            "add " + NO_IDS + " = -1; size 3 = 0; commit = -1", "feed red; add " + NO_IDS + " = -1; size 4 = 1; add 11 = 1");
+            "add " + NO_IDS + " = -1; size 3 = 0; commit = -1",
+            "feed red; add " + NO_IDS + " = -1; size 4 = 1; add 11 = 1");
         sentences.changesNothing("refused with -1 when there is no such id.",
-            "put 0 cat; delete 11; feed red dog", "add " + NO_IDS + " = -1",
-            "add 3 = 3; commit = 2; holds red dog = 3; holds cat = 0", "feed cat = 3; commit = 1; size 7 = 2");
+            "put 0 cat; delete 11; feed red dog",
+            "add " + NO_IDS + " = -1",
+            "add 3 = 3; commit = 2; holds red dog = 3; holds cat = 0",
+            "feed cat = 3; commit = 1; size 7 = 2");
     }
 
     private static void promise5() {
@@ -109,17 +130,20 @@ public final class DraftSentencesTest {
             "delete 3 3 = 1; size 3 = 1",
             "put 3 red; put 4 dog; delete 3 = 2; commit = 1; holds red =; holds dog = 4; size 7 = 2");
         sentences.test("whether there is such a document or not).",
-            "delete 3 = 1; size 3 = 1; commit = 0; size 7 = 1", "put 4 red; commit; delete 3 = 1; commit = 1; size 7 = 3",
+            "delete 3 = 1; size 3 = 1; commit = 0; size 7 = 1",
+            "put 4 red; commit; delete 3 = 1; commit = 1; size 7 = 3",
             "put 3 red; commit; delete 3; commit; delete 3 = 1; commit = 0; size 7 = 5");
         sentences.test("Answers how many ids have something pending;",
             "delete 3 4 3 = 1 2 2; add 4 5 = 2 3; delete 0 11 = 4 5; size 3 = 5");
         sentences.test("For an id it becomes pending that it is deleted",
             "feed red; delete 3 = 1; size 4 = 1; commit = 0; size 4 = 1; feed dog = 2");
-        sentences.test("DOWN;", STOPPED + "delete 0 3 11 = -9; delete " + NO_IDS + " = -9; size 3 = 0; restart; delete 0 = 1");
+        sentences.test("DOWN;",
+            STOPPED + "delete 0 3 11 = -9; delete " + NO_IDS + " = -9; size 3 = 0; restart; delete 0 = 1");
         sentences.test("refused with -1 when there is no such id.",
             "delete " + NO_IDS + " = -1; size 3 = 0; commit = -1");
         sentences.changesNothing("refused with -1 when there is no such id.",
-            "put 0 cat; put 11 cat; commit; put 3 red; delete 4; feed dog", "delete " + NO_IDS + " = -1",
+            "put 0 cat; put 11 cat; commit; put 3 red; delete 4; feed dog",
+            "delete " + NO_IDS + " = -1",
             "commit = 3; holds cat = 0 11; holds red = 3; add 5; commit; holds dog = 5");
     }
 }

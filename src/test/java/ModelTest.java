@@ -9,7 +9,9 @@ public final class ModelTest {
         "cat", "cats", "dog", "dogs", "red", "hop", "hopping", "hopped", "the", "a", "to", "toed", "fish", "bird",
     };
     private static final long[] NONE = {0L, 27L, 32L, -1L, 1L << 60, Long.MAX_VALUE};
-    private static final String[] ENDS = {"", "s", "ss", "sses", "ies", "eed", "ed", "ing", "y", "ying", "ated", "ings"};
+    private static final String[] ENDS = {
+        "", "s", "ss", "sses", "ies", "eed", "ed", "ing", "y", "ying", "ated", "ings",
+    };
 
     private final Check check;
     private final Random random;
